@@ -645,8 +645,9 @@ public final class VoltNumbers {
         static final int MINUS = 3;
         static final int SEMICOLON = 4;
         static final int NO_TOKEN = 5;
+        private static final int BLANK = 6;
 
-        final byte[] bytes = new byte[TAPE_BYTES];
+        private final byte[] bytes = new byte[TAPE_BYTES];
         int length = 0;
 
         int kind = END;
@@ -671,41 +672,50 @@ public final class VoltNumbers {
 
         void advance() {
             place = behind;
-            while (place < length && byteAt(place) == ' ') {
+            while (place < length && kindAt(place) == BLANK) {
                 place++;
             }
-            behind = place + 1;
-            int first = byteAt(place);
-            if (place >= length) {
-                behind = place;
-                kind = END;
-            } else if (isLetter(first)) {
-                readName();
-            } else if (isFigure(first)) {
-                readNumber();
-            } else if (first == '-') {
-                kind = MINUS;
-            } else if (first == ';') {
-                kind = SEMICOLON;
-            } else {
+            kind = kindAt(place);
+            behind = Math.min(place + 1, length);
+            if (kind == NAME || kind == NUMBER) {
+                while (behind < length && kindAt(behind) == kind) {
+                    behind++;
+                }
+            }
+            if (kind == NUMBER) {
+                readFigures();
+            }
+        }
+
+        private void readFigures() {
+            if (behind - place > MOST_FIGURES) {
                 kind = NO_TOKEN;
+                return;
+            }
+            number = 0;
+            for (int i = place; i < behind; i++) {
+                number = number * 10 + byteAt(i) - '0';
             }
         }
 
-        private void readName() {
-            while (behind < length && isLetter(byteAt(behind))) {
-                behind++;
+        /** The kind of token that a byte can belong to. */
+        private int kindAt(int i) {
+            if (i < 0 || i >= length || i >= bytes.length) {
+                return END;
             }
-            kind = NAME;
-        }
-
-        private void readNumber() {
-            number = byteAt(place) - '0';
-            while (behind < length && isFigure(byteAt(behind))) {
-                number = number * 10 + byteAt(behind) - '0';
-                behind++;
+            int sign = bytes[i];
+            if (sign >= 'a' && sign <= 'z') {
+                return NAME;
             }
-            kind = behind - place > MOST_FIGURES ? NO_TOKEN : NUMBER;
+            if (sign >= '0' && sign <= '9') {
+                return NUMBER;
+            }
+            switch (sign) {
+                case '-': return MINUS;
+                case ';': return SEMICOLON;
+                case ' ': return BLANK;
+                default: return NO_TOKEN;
+            }
         }
 
         boolean isNamed(String word) {
@@ -722,14 +732,6 @@ public final class VoltNumbers {
 
         private int byteAt(int i) {
             return i >= 0 && i < bytes.length ? bytes[i] : 0;
-        }
-
-        private static boolean isLetter(int sign) {
-            return sign >= 'a' && sign <= 'z';
-        }
-
-        private static boolean isFigure(int sign) {
-            return sign >= '0' && sign <= '9';
         }
     }
 
@@ -801,7 +803,20 @@ public final class VoltNumbers {
                 return;
             }
             tokens.advance();
-            readBehind(line);
+            switch (line) {
+                case BITS: draft.bits = takeNumber(Rules.LEAST_BITS, Rules.MOST_BITS); break;
+                case UNIT: draft.unit = takeNumber(1, 99); break;
+                case OFFSET: draft.offset = takeNumber(-Rules.BOUND, Rules.BOUND); break;
+                case TOP: draft.top = true; break;
+                case LEAN: draft.lean = takeNumber(-Rules.BOUND, Rules.BOUND); break;
+                case REF: draft.ref = takeNumber(1, Rules.BOUND); break;
+                case MISS: readMiss(); break;
+                default: readResistor(); break;
+            }
+            // Lines of these two are told once for each part, each resistor.
+            if (line != MISS && line != STRING) {
+                toldLines |= 1 << line;
+            }
             if (stands(Tokens.SEMICOLON)) {
                 tokens.advance();
             }
@@ -832,30 +847,9 @@ public final class VoltNumbers {
             return tokens.isNamed("string") ? STRING : NO_LINE;
         }
 
-        private void readBehind(int line) {
-            if (line == MISS) {
-                readMiss();
-                return;
-            }
-            if (line == STRING) {
-                readResistor();
-                return;
-            }
-            toldLines |= 1 << line;
-            switch (line) {
-                case BITS: draft.bits = takeNumber(Rules.LEAST_BITS, Rules.MOST_BITS); break;
-                case UNIT: draft.unit = takeNumber(1, 99); break;
-                case OFFSET: draft.offset = takeSigned(-Rules.BOUND, Rules.BOUND); break;
-                case TOP: draft.top = true; break;
-                case LEAN: draft.lean = takeSigned(-Rules.BOUND, Rules.BOUND); break;
-                case REF: draft.ref = takeNumber(1, Rules.BOUND); break;
-                default: break;
-            }
-        }
-
         private void readMiss() {
             int part = takeFresh(Rules.MISSES, toldMisses);
-            int miss = takeSigned(-Rules.BOUND, Rules.BOUND);
+            int miss = takeNumber(-Rules.BOUND, Rules.BOUND);
             if (faultFound == NO_FAULT) {
                 toldMisses |= 1 << part;
                 draft.putMiss(part, miss);
@@ -864,7 +858,7 @@ public final class VoltNumbers {
 
         private void readResistor() {
             int resistor = takeFresh(Rules.RESISTORS, toldResistors);
-            int more = takeSigned(-9, 89);
+            int more = takeNumber(-9, 89);
             if (faultFound == NO_FAULT) {
                 toldResistors |= 1 << resistor;
                 draft.putResistor(resistor, Rules.EVEN_RESISTOR + more);
@@ -877,26 +871,29 @@ public final class VoltNumbers {
                 return 0;
             }
             int number = tokens.number;
-            if (number < bound && isTold(told, number)) {
+            if (number >= bound) {
+                refuse(BOUNDS_FAULT, tokens.place);
+                return 0;
+            }
+            if (isTold(told, number)) {
                 refuse(TOLD_FAULT, tokens.place);
                 return 0;
             }
-            return takeNumber(0, bound - 1);
-        }
-
-        private int takeSigned(int least, int greatest) {
-            if (faultFound != NO_FAULT || tokens.kind != Tokens.MINUS) {
-                return takeNumber(least, greatest);
-            }
             tokens.advance();
-            return -takeNumber(-greatest, -least);
+            return number;
         }
 
+        /** A number within bounds; a minus can stand ahead of it if the least is below 0. */
         private int takeNumber(int least, int greatest) {
+            int sign = 1;
+            if (faultFound == NO_FAULT && least < 0 && tokens.kind == Tokens.MINUS) {
+                sign = -1;
+                tokens.advance();
+            }
             if (!stands(Tokens.NUMBER)) {
                 return 0;
             }
-            int number = tokens.number;
+            int number = sign * tokens.number;
             if (number < least || number > greatest) {
                 refuse(BOUNDS_FAULT, tokens.place);
                 return 0;

@@ -76,6 +76,17 @@ public final class MeasuredTest {
         check.due("offset by", x.reckon(1), 1);
         check.due("no ints", x.adopt(), -3);
         check.due("nothing became other", x.rule(10), 0);
+        // Codes 1, 2, 4, 7: twice the offset is the first three less the last.
+        VoltNumbers y = check.told("bits 3;");
+        y.measure(7, 8);
+        y.measure(4, 4);
+        y.measure(2, 2);
+        y.measure(1, 1);
+        long[] halves = {-1, 3, 5, 9};
+        for (int i = 0; i < 4; i++) {
+            check.due("halves " + i, y.reckon(i == 0 ? 0 : 9 + i), halves[i]);
+            check.due("halves " + i + " by", y.reckon(i == 0 ? 1 : 29 + i), 2);
+        }
     }
 
     private static void tellingTooLittle() {
