@@ -693,8 +693,8 @@ public final class VoltNumbers {
                 return;
             }
             number = 0;
-            for (int i = place; i < behind; i++) {
-                number = number * 10 + byteAt(i) - '0';
+            for (int i = place; i < behind && i < bytes.length; i++) {
+                number = number * 10 + bytes[i] - '0';
             }
         }
 
@@ -1149,26 +1149,33 @@ public final class VoltNumbers {
             return span.volts() > 0;
         }
 
+        /**
+         * Cuts the span to the volts to which a code is the nearest: only the
+         * next OUT below and above bound them, and the lesser code wins a tie.
+         */
         private void cutToNearest(int code) {
+            int own = outOf(code);
+            int below = NONE;
+            int above = NONE;
             int codes = rules.codes();
-            for (int other = 0; other < codes && span.volts() > 0; other++) {
-                if (other != code) {
-                    cutToNearer(code, other);
+            for (int other = 0; other < codes; other++) {
+                int its = outOf(other);
+                if (its == own && other < code) {
+                    span.cutHigh(span.low - 1);
+                    return;
+                }
+                if (its < own && (below == NONE || its > outOf(below))) {
+                    below = other;
+                }
+                if (its > own && (above == NONE || its < outOf(above))) {
+                    above = other;
                 }
             }
-        }
-
-        /** Leaves the volts that are nearer to a code than to another; the lesser wins a tie. */
-        private void cutToNearer(int code, int other) {
-            int own = outOf(code);
-            int its = outOf(other);
-            int tie = code < other ? 0 : 1;
-            if (own < its) {
-                span.cutHigh(Math.floorDiv(own + its - tie, 2));
-            } else if (own > its) {
-                span.cutLow(Math.floorDiv(own + its + 1 + tie, 2));
-            } else if (other < code) {
-                span.cutHigh(span.low - 1);
+            if (below != NONE) {
+                span.cutLow(Math.floorDiv(own + outOf(below) + (code < below ? 1 : 2), 2));
+            }
+            if (above != NONE) {
+                span.cutHigh(Math.floorDiv(own + outOf(above) - (code < above ? 0 : 1), 2));
             }
         }
     }
