@@ -99,6 +99,11 @@ public final class StepsTest {
         check.due("steps back", y.back(0), 1);
         check.due("steps of 0", y.back(1), 2);
         check.due("the first back", y.back(2), 3);
+        // No step beyond the greatest CODE is counted, whatever an earlier text told of there.
+        VoltNumbers z = check.told("bits 3; unit 1; miss 0 -1; miss 1 -2; miss 2 -4;");
+        check.due("seven steps of 0", z.back(1), 7);
+        Check.tell(z, "bits 2; unit 1; miss 0 -1; miss 1 -2;");
+        check.due("three steps of 0", z.back(1), 3);
         check.due("none back", new VoltNumbers().back(2), -4);
         check.due("back(3)", x.back(3), -1);
         check.due("back(-1)", x.back(-1), -1);
