@@ -1511,21 +1511,29 @@ public final class VoltNumbers {
 
         boolean canBeAdopted() {
             for (int unknown = 0; unknown < unknowns; unknown++) {
-                if (divisor == 0 || solved(unknown) % divisor != 0) {
-                    return false;
-                }
-                long value = newRule(unknown);
-                if (value < -Rules.BOUND || value > Rules.BOUND) {
+                if (divisor == 0 || solved(unknown) % divisor != 0 || !isWithinBounds(unknown)) {
                     return false;
                 }
             }
             return true;
         }
 
+        /** A part weighs 0 at least: no miss makes it weigh less, though one within bounds could be told. */
+        private boolean isWithinBounds(int unknown) {
+            if (unknown > 0 && whole(unknown) < 0) {
+                return false;
+            }
+            long value = newRule(unknown);
+            return value >= -Rules.BOUND && value <= Rules.BOUND;
+        }
+
+        private long whole(int unknown) {
+            return divisor == 0 ? 0 : solved(unknown) / divisor;
+        }
+
         /** The offset or miss that makes an unknown as it was solved. */
         private long newRule(int unknown) {
-            long value = divisor == 0 ? 0 : solved(unknown) / divisor;
-            return unknown == 0 ? value : value - rules.evenWeight(unknown - 1);
+            return unknown == 0 ? whole(0) : whole(unknown) - rules.evenWeight(unknown - 1);
         }
 
         /** Answers how many became others. */

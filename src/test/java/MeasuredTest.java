@@ -13,6 +13,8 @@ public final class MeasuredTest {
         withTop();
         adopting();
         notAdopted();
+        noWeightBelowNothing();
+        adoptingWhatWeighsNothing();
         distances();
         check.finish("MeasuredTest");
     }
@@ -154,13 +156,53 @@ public final class MeasuredTest {
             check.due("miss 0 stays", x.rule(10), 0);
             check.due("miss 1 stays", x.rule(11), 0);
         }
-        VoltNumbers y = check.told("bits 2;");
-        y.measure(0, 0);
-        y.measure(1, 16 - 999);
-        y.measure(2, 32 - 999);
-        check.due("the least misses", y.adopt(), 2);
-        check.due("miss 0", y.rule(10), -999);
-        check.due("a part weighs 0 at least", y.out(3), 0);
+    }
+
+    private static void noWeightBelowNothing() {
+        int[][] volts = {{0, -1, 32}, {0, 16, -1}, {5, 4, 37}, {-7, 9, -8}};
+        for (int[] v : volts) {
+            VoltNumbers x = measured("bits 2; miss 0 - 3;", v);
+            check.due("a weight below 0", x.adopt(), -3);
+            check.due("the offset stays", x.rule(2), 0);
+            check.due("miss 0 stays", x.rule(10), -3);
+            check.due("miss 1 stays", x.rule(11), 0);
+            check.due("out stays", x.out(3), 13 + 32);
+        }
+        VoltNumbers y = measured("bits 2;", new int[] {-999, -999, -999});
+        check.due("weights of 0", y.adopt(), 3);
+        check.due("an offset below 0", y.rule(2), -999);
+        check.due("miss 0", y.rule(10), -16);
+        check.due("miss 1", y.rule(11), -32);
+        check.due("out", y.out(3), -999);
+
+        VoltNumbers far = check.told("bits 5; unit 99;");
+        far.measure(0, 0);
+        for (int part = 0; part < 4; part++) {
+            far.measure(1 << part, 99 << part);
+        }
+        far.measure(16, 1584 - 1000);
+        check.due("a miss of -1000 with a weight above 0", far.adopt(), -3);
+        far.measure(16, 1584 - 999);
+        check.due("a miss of -999", far.adopt(), 1);
+        check.due("miss 4", far.rule(14), -999);
+        check.due("out", far.out(16), 585);
+    }
+
+    private static void adoptingWhatWeighsNothing() {
+        VoltNumbers x = measured("bits 2; miss 0 - 50;", new int[] {0, 0, 32});
+        check.due("out", x.out(1), 0);
+        check.due("the miss becomes that which makes it 0 just so", x.adopt(), 1);
+        check.due("miss 0", x.rule(10), -16);
+        check.due("adopt again", x.adopt(), 0);
+    }
+
+    /** A text told, then the volts measured of codes 0, 1, 2 and so on. */
+    private static VoltNumbers measured(String text, int[] volts) {
+        VoltNumbers x = check.told(text);
+        for (int code = 0; code < volts.length; code++) {
+            x.measure(code, volts[code]);
+        }
+        return x;
     }
 
     private static void distances() {

@@ -739,7 +739,8 @@ final class PlainModel {
         long[] becomes = new long[values.length];
         for (int i = 0; i < values.length; i++) {
             becomes[i] = values[i].side(0) - (i == 0 ? 0 : nominal(i - 1));
-            if (values[i].side(1) != 1 || Math.abs(becomes[i]) > 999) {
+            boolean belowNothing = i > 0 && values[i].side(0) < 0;
+            if (values[i].side(1) != 1 || belowNothing || Math.abs(becomes[i]) > 999) {
                 return FULL;
             }
         }
