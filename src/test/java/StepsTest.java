@@ -9,6 +9,7 @@ public final class StepsTest {
         outsWithTop();
         evenness();
         noScale();
+        leastScale();
         stepsBack();
         nearestCode();
         check.finish("StepsTest");
@@ -86,6 +87,19 @@ public final class StepsTest {
         check.due("BAD comes first: wide", x.wide(3, 0), BAD_LONG);
         check.due("BAD comes first: bent", x.bent(0, 2), BAD_LONG);
         check.due("BAD comes first: worst", x.worst(0, 3), -1);
+    }
+
+    /** All of the scale is one volt: the least for which WIDE and BENT can be told. */
+    private static void leastScale() {
+        VoltNumbers x = check.told("bits 2; unit 1; miss 1 - 2;");
+        fraction("lsb", x.lsb(0), x.lsb(1), 1, 3);
+        fraction("wide(0)", x.wide(0, 0), x.wide(0, 1), 2, 1);
+        fraction("wide(1)", x.wide(1, 0), x.wide(1, 1), -4, 1);
+        fraction("bent(2)", x.bent(2, 0), x.bent(2, 1), -2, 1);
+        check.due("worst wide", x.worst(0, 0), 1);
+        fraction("worst wide", x.worst(0, 1), x.worst(0, 2), 4, 1);
+        check.due("worst bent", x.worst(1, 0), 1);
+        fraction("worst bent", x.worst(1, 1), x.worst(1, 2), 2, 1);
     }
 
     private static void stepsBack() {
