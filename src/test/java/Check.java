@@ -11,6 +11,23 @@ final class Check {
         }
     }
 
+    /** An answer that is taken, whatever it is. */
+    void unlike(String call, long got, long bad) {
+        asked++;
+        if (got == bad) {
+            wrong++;
+            System.out.println(call + " answered " + got + ", which is a refusal");
+        }
+    }
+
+    void same(String when, String got, String want) {
+        asked++;
+        if (!got.equals(want)) {
+            wrong++;
+            System.out.println(when + ": " + got + ", due is " + want);
+        }
+    }
+
     /** Puts a text on an empty tape, byte for byte. */
     static void put(VoltNumbers x, String text) {
         for (int from = 0; from < text.length(); from += 8) {

@@ -485,20 +485,30 @@ final class PlainModel {
         return was;
     }
 
-    private boolean atNode(int m, int j, long v) {
+    private int[] resistors(int m) {
+        int[] resistors = new int[1 << m];
+        for (int i = 0; i < resistors.length; i++) {
+            resistors[i] = resistor(i);
+        }
+        return resistors;
+    }
+
+    private static boolean atNode(int[] resistors, int ref, int j, long v) {
         long all = 0;
         long below = 0;
-        for (int i = 0; i < 1 << m; i++) {
-            all += resistor(i);
-            below += i < j ? resistor(i) : 0;
+        for (int i = 0; i < resistors.length; i++) {
+            all += resistors[i];
+            below += i < j ? resistors[i] : 0;
         }
-        return v * all >= ref() * below;
+        return v * all >= ref * below;
     }
 
     private boolean[] says(int m, int v) {
         boolean[] says = new boolean[1 << m];
+        int[] resistors = resistors(m);
+        int ref = ref();
         for (int j = 1; j < says.length; j++) {
-            says[j] = stuck[j] == NONE ? atNode(m, j, v) : stuck[j] == 1;
+            says[j] = stuck[j] == NONE ? atNode(resistors, ref, j, v) : stuck[j] == 1;
         }
         return says;
     }
@@ -526,7 +536,7 @@ final class PlainModel {
             return BAD;
         }
         int v = 0;
-        while (!atNode(m, j, v)) {
+        while (!atNode(resistors(m), ref(), j, v)) {
             v++;
         }
         return v;
