@@ -132,6 +132,17 @@ public final class EdgesHalvesTest {
         ranges("bits 2;unit 10;lean 4;", 4, 0, -4, 0);
         ranges("bits 2;unit 10;lean 5;", 4, 0, -4, 3);
         ranges("bits 2;unit 10;lean 3;", 4, 0, -4, 3);
+        ranges("bits 2;unit 10;lean 4;offset 999;", 4, 0, -4, 0);
+        ranges("bits 2;unit 10;lean 4;offset -35;", 4, 0, -4, 0);
+        // The new object had a CODE 4 with OUT 64, just above that of the greatest CODE now; it is none any more.
+        ranges("bits 2;unit 21;", 4, 0, -4, 30);
+        // Between two OUTS that are an odd number of volts apart none is as near to both: 1, 2, 6, 7, 11, 12 are off.
+        ranges("bits 2;unit 5;lean 4;", 4, 0, -4, 6);
+        ranges("bits 2;unit 5;lean -4;", 4, 0, -4, 16);
+        // OUT: 0, 10, 6, 16: 8 comes to CODE 2, but 1 is as near and less; 4, 5 and 8 to 15 are off.
+        ranges("bits 2;unit 10;miss 1 -14;", 3, 1, 1, 10);
+        // OUT: 0, 10, 6, 16, 10, 20, 16, 26: 8 comes to CODE 2 again, as near as 1 and 4.
+        ranges("bits 3;unit 10;miss 1 -14;miss 2 -30;", 5, 3, 1, 20);
         // OUT: 0, 10, 10, 20: CODE 2 comes for 10 to 19, but the nearest up to 15 is 1.
         ranges("bits 2;unit 10;miss 1 -10;", 3, 1, 1, 14);
     }

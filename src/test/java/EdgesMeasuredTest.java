@@ -17,7 +17,9 @@ public final class EdgesMeasuredTest {
         contradictions();
         firstThatFits();
         lowestTermsInAnyOrder();
+        halves();
         thirds();
+        nothingOfAnEarlierText();
         zeroByOne();
         adoptedJustWithinBounds();
         notAdoptedJustOutside();
@@ -235,6 +237,45 @@ public final class EdgesMeasuredTest {
         }
     }
 
+    /** The OFFSET too, and halves of PARTS that are reckoned one behind the other. */
+    private static void halves() {
+        VoltNumbers x = measured("bits 3;", 7, 8, 4, 4, 2, 2, 1, 1).get();
+        long[] due = {-1, 3, 5, 9};
+        for (int unknown = 0; unknown < 4; unknown++) {
+            check.due("halves", x.reckon(unknown == 0 ? 0 : 9 + unknown), due[unknown]);
+            check.due("by", x.reckon(unknown == 0 ? 1 : 29 + unknown), 2);
+        }
+        VoltNumbers y = measured("bits 6;", 0, 0, 3, 1, 5, 2, 6, -4, 24, 3, 40, 4, 48, 6).get();
+        long[] weights = {7, -5, -3, 1, 5, 7};
+        for (int part = 0; part < 6; part++) {
+            check.due("halves of part " + part, y.reckon(10 + part), weights[part]);
+            check.due("by", y.reckon(30 + part), 2);
+        }
+        VoltNumbers z = measured("bits 6;unit 1;", 0, 10, 3, 14, 5, 16, 6, 16, 24, 36, 40, 46, 48, 50).get();
+        // Without the offset: 4, 6, 6, then 26, 36, 40.
+        int[] whole = {2, 2, 4, 11, 15, 25};
+        check.due("the offset and all but parts 1 and 2", z.adopt(), 5);
+        for (int part = 0; part < 6; part++) {
+            check.due("miss " + part, z.rule(10 + part), whole[part] - (1 << part));
+        }
+        check.due("out", z.out(63), 10 + 59);
+    }
+
+    /** "(Nothing is MEASURED then.)": what was reckoned ahead of a text is nothing behind it. */
+    private static void nothingOfAnEarlierText() {
+        VoltNumbers x = measured("bits 2;", 0, 0, 1, 16, 2, 32, 3, 99).get();
+        check.due("contradicting", x.reckon(0), STATE_LONG);
+        Check.tell(x, "bits 2;");
+        check.due("nothing", x.reckon(0), NONE_LONG);
+        check.due("nothing to adopt", x.adopt(), -4);
+        x.measure(0, 0);
+        x.measure(1, 16);
+        check.due("two are too few", x.reckon(0), NONE_LONG);
+        x.measure(2, 33);
+        check.due("three are enough", x.reckon(11), 33);
+        check.due("apart", x.apart(0), 1);
+    }
+
     private static void thirds() {
         VoltNumbers x = measured("", 0, 0, 7, 1, 11, 0, 13, 0, 14, 0).get();
         int[] due = {1, 1, 1, -2};
@@ -320,8 +361,15 @@ public final class EdgesMeasuredTest {
         edges.refused(measured("bits 3;", 0, 0, 3, 1, 5, 2, 6, 4), -3, "adopt");
         edges.refused(measured("bits 3;", 7, 8, 4, 4, 2, 2, 1, 1), -3, "adopt");
         VoltNumbers x = measured("bits 3;", 7, 9, 4, 4, 2, 2, 1, 1).get();
-        check.due("an int once more", x.reckon(0), -1);
+        check.due("-2 by 2 is an int", x.reckon(0), -1);
         check.due("adopt", x.adopt(), 4);
+        check.due("offset", x.rule(2), -1);
+        int[] weights = {2, 3, 5};
+        for (int part = 0; part < 3; part++) {
+            check.due("miss " + part, x.rule(10 + part), weights[part] - (16 << part));
+            check.due("out of it", x.out(1 << part), weights[part] - 1);
+        }
+        check.due("all parts", x.out(7), 9);
     }
 
     /** "how many became others" */

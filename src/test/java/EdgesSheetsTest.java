@@ -64,6 +64,13 @@ public final class EdgesSheetsTest {
 
     /** "A SHEET is a new row of CELLS 0" */
     private static void newRowOfZeros() {
+        for (int lane = 0; lane <= 2; lane++) {
+            // -1, 0, 1 come to CODES 0, 1, 2.
+            VoltNumbers fine = check.told("bits 3;unit 1;lean 1;");
+            fine.sheet(0, lane, 64);
+            check.due("64 alike", fine.wave(0, lane, 0, 64, 0), 1);
+            check.due("and each is 0", fine.wave(0, lane, 0, 64, 1), 1);
+        }
         VoltNumbers x = new VoltNumbers();
         for (int k = 0; k <= 3; k++) {
             x.sheet(k, 2, 64);
@@ -85,8 +92,8 @@ public final class EdgesSheetsTest {
     private static void layBounds() {
         for (long k : new long[] {-1, 4, Integer.MIN_VALUE, Integer.MAX_VALUE}) {
             for (long i : new long[] {-1, 0, 64}) {
-                edges.refused(Edges.FRESH, -1, "lay", k, i, 7);
-                edges.refused(Edges.USED, -1, "lay", k, i, 7);
+                edges.refused(Edges.FRESH, -1, "lay", k, i, 33);
+                edges.refused(Edges.USED, -1, "lay", k, i, 33);
             }
         }
     }
@@ -95,23 +102,23 @@ public final class EdgesSheetsTest {
     private static void layFaults() {
         for (long i : new long[] {-1, 0, 63, 64, Integer.MIN_VALUE, Integer.MAX_VALUE}) {
             for (int k = 0; k <= 3; k++) {
-                edges.refused(Edges.FRESH, -11, "lay", k, i, 7);
+                edges.refused(Edges.FRESH, -11, "lay", k, i, 33);
             }
-            edges.refused(Edges.USED, -11, "lay", 3, i, 7);
+            edges.refused(Edges.USED, -11, "lay", 3, i, 33);
         }
         for (long i : new long[] {-1, 5, 6, Integer.MIN_VALUE, Integer.MAX_VALUE}) {
-            edges.refused(Edges.USED, -12, "lay", 0, i, 7);
-            edges.refused(Edges.USED, -12, "lay", 1, i, 7);
+            edges.refused(Edges.USED, -12, "lay", 0, i, 33);
+            edges.refused(Edges.USED, -12, "lay", 1, i, 33);
         }
-        edges.refused(Edges.USED, -12, "lay", 2, 64, 7);
-        edges.refused(Edges.USED, -12, "lay", 2, -1, 7);
+        edges.refused(Edges.USED, -12, "lay", 2, 64, 33);
+        edges.refused(Edges.USED, -12, "lay", 2, -1, 33);
         Supplier<VoltNumbers> empty = () -> {
             VoltNumbers x = new VoltNumbers();
             x.sheet(0, 0, 0);
             return x;
         };
-        edges.refused(empty, -12, "lay", 0, 0, 7);
-        edges.refused(empty, -12, "lay", 0, -1, 7);
+        edges.refused(empty, -12, "lay", 0, 0, 33);
+        edges.refused(empty, -12, "lay", 0, -1, 33);
     }
 
     /** The CODE that a number has when it has been laid; with a lean of 999 and a unit of 9 it tells -999 to 1296. */

@@ -120,6 +120,8 @@ public final class EdgesSlopesTest {
     private static void differencesOfBeginnings() {
         VoltNumbers x = check.told("ref 1;");
         check.due("no hum", x.hum(7, 5, 0, 10), 0);
+        check.due("nothing at all", x.hum(1, 0, 0, 2), 0);
+        check.due("no volt, whole periods", x.hum(400, 0, 99, 40), 0);
         check.due("whole periods", x.hum(400, 2, 99, 40), 0);
         check.due("one tick less", x.hum(399, 2, 1, 40), 2);
         check.due("one tick", x.hum(1, 99, 99, 2), 198);

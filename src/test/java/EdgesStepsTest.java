@@ -251,6 +251,18 @@ public final class EdgesStepsTest {
     }
 
     private static void stepsOfAllKinds() {
+        VoltNumbers fresh = new VoltNumbers();
+        VoltNumbers offset = check.told("offset -5;");
+        int[] even = {0, 0, -4};
+        for (int what = 0; what <= 2; what++) {
+            check.due("a new one: back(" + what + ")", fresh.back(what), even[what]);
+            check.due("with an offset below 0: back(" + what + ")", offset.back(what), even[what]);
+        }
+        // What an earlier text told of greater CODES is no STEP of the greatest one.
+        VoltNumbers fewer = check.told("bits 3;unit 1;miss 0 -1;miss 1 -2;miss 2 -4;");
+        check.due("seven of 0", fewer.back(1), 7);
+        Check.tell(fewer, "bits 2;unit 1;miss 0 -1;miss 1 -2;");
+        check.due("three of 0", fewer.back(1), 3);
         VoltNumbers flat = FLAT.get();
         check.due("none below 0", flat.back(0), 0);
         check.due("all of 0", flat.back(1), 3);

@@ -460,6 +460,17 @@ public final class EdgesTextTest {
             edges.refusedText(line + line, 4, line.length());
             edges.refusedText(line + "miss 0 1; " + line, 4, line.length() + 10);
         }
+        for (String line : once) {
+            for (String other : once) {
+                if (!other.equals(line)) {
+                    edges.refusedText(line + other + line, 4, line.length() + other.length());
+                }
+            }
+        }
+        edges.refusedText("miss 0 0;miss 1 0;miss 0 0;", 4, 23);
+        edges.refusedText("miss 8 0;miss 0 0;miss 8 0;", 4, 23);
+        edges.refusedText("string 0 0;string 1 0;string 0 0;", 4, 29);
+        edges.refusedText("string 15 0;string 1 0;string 15 0;", 4, 30);
         for (int part = 0; part <= 8; part++) {
             edges.refusedText("miss " + part + " 0;miss " + part + " 5;", 4, 14);
             edges.refusedText("miss " + part + " 0;miss 00" + part + " 5;", 4, 14);
@@ -494,6 +505,10 @@ public final class EdgesTextTest {
         edges.refusedText("bits 3 ,;unit 0;", 1, 7);
         edges.refusedText("bits 3;unit 0;,", 3, 12);
         edges.refusedText("miss 1 , miss", 1, 7);
+        // The one behind the RESISTOR is not looked at, nor a NUMBER of an earlier line in its place.
+        edges.refusedText("unit 99;string ;", 2, 15);
+        edges.refusedText("unit 99;string", 2, 14);
+        edges.refusedText("unit 99;string ,", 1, 15);
     }
 
     /** "Behind all: 5 top with BITS 2 (place 0)." */
