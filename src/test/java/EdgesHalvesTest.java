@@ -55,6 +55,7 @@ public final class EdgesHalvesTest {
         }
     }
 
+    /** "lean: of the COMPARER (-999 to 999": added to the greatest and least of VOLTS */
     private static void leanAtItsBounds() {
         VoltNumbers up = check.told("bits 2;unit 10;lean 999;");
         check.due("-990", up.halves(-990, -4), 0);

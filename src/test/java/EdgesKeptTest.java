@@ -39,6 +39,7 @@ public final class EdgesKeptTest {
         }
     }
 
+    /** "BAD; NONE: none up to tick 400", in this order */
     private static void roundBounds() {
         edges.bounds(-1, 0, 1, 2, "round", 0, 10, 0);
         for (int order = 1; order <= 2; order++) {
@@ -94,6 +95,7 @@ public final class EdgesKeptTest {
         check.due("400 of the first", x.ones(1, 1, 400), 267);
     }
 
+    /** "ref: 1 to 999": what a bit gives */
     private static void refAtItsBounds() {
         VoltNumbers most = check.told("ref 999;");
         for (int order = 1; order <= 2; order++) {

@@ -276,6 +276,7 @@ public final class EdgesMeasuredTest {
         check.due("apart", x.apart(0), 1);
     }
 
+    /** "(fractions)": by 3, and of the greatest volts */
     private static void thirds() {
         VoltNumbers x = measured("", 0, 0, 7, 1, 11, 0, 13, 0, 14, 0).get();
         int[] due = {1, 1, 1, -2};
@@ -407,10 +408,12 @@ public final class EdgesMeasuredTest {
         }
     }
 
+    /** "the sum (what 0), the greatest (1), the first CODE by numbers with that (2; NONE). BAD." */
     private static void apartBounds() {
         edges.bounds(-1, 0, 0, 2, "apart", 0);
     }
 
+    /** "How far MEASURED ones are from OUT": twelve of them, as far as can be */
     private static void greatestDistances() {
         int[] pairs = new int[24];
         for (int i = 0; i < 12; i++) {

@@ -317,6 +317,7 @@ public final class EdgesSheetsTest {
         check.due("19 with an offset of -1", x.wave(0, 0, 0, 1, 1), 1);
     }
 
+    /** "How many: 0 CODES .. 5 CELLS of SHEET 0. BAD." */
     private static void countBounds() {
         edges.bounds(-1, 0, 0, 5, "count", 0);
     }

@@ -26,6 +26,7 @@ public final class EdgesSlopesTest {
         edges.bounds(-1, 4, 0, 39, "slopes", 7, 5, 3, 40, 0);
     }
 
+    /** "BAD": the bounds are those of slopes */
     private static void humBounds() {
         edges.bounds(-1, 0, 1, 400, "hum", 0, 5, 3, 10);
         edges.bounds(-1, 1, 0, 999, "hum", 7, 0, 3, 10);
@@ -108,6 +109,7 @@ public final class EdgesSlopesTest {
         check.due("each second tick, from the second on", x.slopes(3, 10, 1, 2, 1), 29);
     }
 
+    /** "up for k ticks by a volt v and a HUM": each number at its least and greatest */
     private static void numbersAtTheirBounds() {
         VoltNumbers x = check.told("ref 1;");
         check.due("k 1, v 0, h 99", x.slopes(1, 0, 99, 2, 0), 99);

@@ -104,6 +104,7 @@ public final class EdgesStepsTest {
         }
     }
 
+    /** "OFFSET and the weights of its PARTS, summed": all of them at their bounds */
     private static void greatestAndLeastOut() {
         StringBuilder most = new StringBuilder("bits 8;unit 99;offset 999;");
         for (int part = 0; part <= 7; part++) {
@@ -250,6 +251,7 @@ public final class EdgesStepsTest {
         }
     }
 
+    /** "STEPS below 0, STEPS of 0": none, one, as many as can be */
     private static void stepsOfAllKinds() {
         VoltNumbers fresh = new VoltNumbers();
         VoltNumbers offset = check.told("offset -5;");

@@ -169,6 +169,7 @@ public final class EdgesStringTest {
         says("1, 3 and on", odd, new int[] {0b101010101010101, 8, 1, 7});
     }
 
+    /** "COMPARER j (1 to 2 to the m less 1)", "BAD" */
     private static void nodeBounds() {
         edges.bounds(-1, 0, 2, 4, "node", 0, 1);
         edges.bounds(-1, 1, 1, 3, "node", 2, 0);
@@ -208,6 +209,7 @@ public final class EdgesStringTest {
         }
     }
 
+    /** "COUNT and EDGE are unlike (what 0), .. (1). BAD." */
     private static void stringsBounds() {
         edges.bounds(-1, 0, 2, 4, "strings", 0, 0);
         edges.bounds(-1, 0, 2, 4, "strings", 0, 1);
